@@ -28,6 +28,7 @@ public final class PromiseTest {
         digest();
         images();
         farNumbers();
+        fullPage();
         due.end("PromiseTest");
     }
 
@@ -220,6 +221,13 @@ public final class PromiseTest {
         due.is("6: of none", x.cut(0, 0), -1);
         due.is("6: signs", Due.allSigns(x), "/x|");
         due.is("6: may be undone", x.count(7), 5);
+        x = with("add 0 aa|;add 1 b|;add 2 c;");
+        x.cut(0, 0);
+        due.is("6: CHANGED", x.count(3), 3);
+        x = with("add 0 abcd;add 1 " + A24 + ";");
+        x.cut(0, 1);
+        x.put(0, 1, 'z');
+        due.is("6: the next line stays", Due.allSigns(x), "azcd/" + A24);
     }
 
     private static void split() {
@@ -249,6 +257,7 @@ public final class PromiseTest {
         due.is("8: no such line", x.join(2), -1);
         due.is("8: no such line", x.join(-1), -1);
         due.is("8: to 24", with("add 0 aaaaaaaaaaaa;add 1 bbbbbbbbbbbb;").join(0), 1);
+        due.is("8: to 24", with("add 0 aaaaaaaaaaaaa;add 1 bbbbbbbbbbb;").join(0), 1);
         x = with("add 0 aaaaaaaaaaaaa;add 1 bbbbbbbbbbbb;");
         due.is("8: FULL", x.join(0), -3);
         due.is("8: nothing changes", Due.allSigns(x), "aaaaaaaaaaaaa/bbbbbbbbbbbb");
@@ -381,6 +390,7 @@ public final class PromiseTest {
         shownAs(x, " 1.5   z", "20     z", "  .25  z", " 1.2.3 z");
         Due.run(x, "least 8;pad 0;");
         shownAs(x, " 1.5    z", "20      z", "  .25   z", " 1.2.3  z");
+        shownAs(with("add 0 ab|1.5|z;add 1 c|22|z;align 1 point;"), "ab  1.5 z", "c  22   z");
         shownAs(with("add 0 |a||b;pad 0;"), "ab");
         shownAs(with("add 0 |a||b;align 0 right;align 1 middle;"), " a  b");
     }
@@ -445,6 +455,12 @@ public final class PromiseTest {
             h = 31 * h + v;
         }
         due.is("16: two lines", x.digest(), h);
+        x = with("add 0 -;add 1 a|bcd|ef||g;pad 0;least 1;");
+        h = 17;
+        for (int v : new int[] {0, 8, 'a', 'b', 'c', 'd', 'e', 'f', 32, 'g'}) {
+            h = 31 * h + v;
+        }
+        due.is("16: cells of many widths", x.digest(), h);
     }
 
     private static void images() {
@@ -463,6 +479,7 @@ public final class PromiseTest {
         for (int i = 0; i < 12; i++) {
             Due.run(x, "put 0 0 z;pad 1;least 0;align 1 left;");
         }
+        Due.run(x, "add 0 z;");
         Due.type(x, "ab");
         due.is("18: back(1)", x.back(1), 2);
         due.is("18: all is as it was", x.digest(), digest);
@@ -516,5 +533,42 @@ public final class PromiseTest {
         due.is("far: nothing changes", x.digest(), before);
         due.is("far: nothing to undo", x.count(7), 2);
         due.is("far: no byte", x.count(8), 0);
+    }
+
+    /** Twelve lines of 24 TABS each, where every row of the object is used to its end. */
+    private static void fullPage() {
+        ElasticTabs x = new ElasticTabs();
+        for (int l = 0; l < 12; l++) {
+            Due.run(x, "add " + l + " ||||||||||||||||||||||||;");
+        }
+        Due.run(x, "pad 4;least 9;");
+        due.is("full: lines", x.count(0), 12);
+        due.is("full: blocks", x.count(4), 24);
+        due.is("full: CHANGED", x.count(3), 4095);
+        due.is("full: widest line", x.count(5), 312);
+        due.is("full: all together", x.count(6), 3744);
+        long h = 17;
+        for (int l = 0; l < 12; l++) {
+            h = 31 * h + 312;
+            for (int i = 0; i < 312; i++) {
+                h = 31 * h + 32;
+            }
+        }
+        due.is("full: digest", x.digest(), h);
+        due.is("full: the last place", x.shown(11, 311), 32);
+        due.is("full: behind it", x.shown(11, 312), -1);
+        due.is("full: the last cell's begin", x.cell(11, 23, 2), 299);
+        due.is("full: cut the last sign", x.cut(11, 23), 124);
+        due.is("full: put it again", x.put(11, 23, 'z'), 24);
+        due.is("full: cut in the middle", x.cut(11, 12), 124);
+        due.is("full: put there", x.put(11, 12, 'y'), 24);
+        due.is("full: signs", Due.signs(x, 11), "||||||||||||y||||||||||z");
+        due.is("full: split", x.split(0, 12), -3);
+        due.is("full: join", x.join(10), -3);
+        due.is("full: undo", x.undo(), 9);
+        due.is("full: keep", x.keep(1), 12);
+        due.is("full: back", x.back(1), 12);
+        due.is("full: drop", Due.run(x, "drop 11;drop 0;"), 2);
+        due.is("full: a text of nothing but short commands", Due.run(x, "pad 0;".repeat(25)), 25);
     }
 }
