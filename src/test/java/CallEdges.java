@@ -115,6 +115,16 @@ final class CallEdges {
         due.is("LINES", Due.allSigns(x), "bcdefghijklmnopqrstuvw/" + A24);
     }
 
+    @Says("cut: The SIGN at a place goes (of 24 in the twelfth LINE)")
+    static void p06OfTheLastFullLine(Due due) {
+        ElasticTabs x = Due.withLines(11, "-");
+        Due.run(x, "add 11 abcdefghijklmnopqrstuvwx;");
+        due.is("the last", x.cut(11, 23), 'x');
+        due.is("put again", x.put(11, 23, 'y'), 24);
+        due.is("the first", x.cut(11, 0), 'a');
+        due.is("SIGNS", Due.signs(x, 11), "bcdefghijklmnopqrstuvwy");
+    }
+
     @Says("cut: (as cut): it can be UNDONE and tells CHANGED")
     static void p06AsTheCommand(Due due) {
         ElasticTabs x = Due.with("add 0 aa|;add 1 b|;add 2 c;");
@@ -250,6 +260,17 @@ final class CallEdges {
         due.is("LINES", Due.allSigns(x), "/a");
         due.is("none and one", x.join(0), 1);
         due.is("LINES", Due.allSigns(x), "a");
+    }
+
+    @Says("join: The next LINE comes behind it (of twelve)")
+    static void p08OfTwelve(Due due) {
+        ElasticTabs x = Due.withLines(10, "a|");
+        Due.run(x, "add 10 bbbbbbbbbbbb;add 11 cccccccccccc;");
+        due.is("the last two", x.join(10), 11);
+        due.is("SIGNS", Due.signs(x, 10), "bbbbbbbbbbbbcccccccccccc");
+        due.is("the first two", x.join(0), 10);
+        due.is("SIGNS", Due.signs(x, 0), "a|a|");
+        due.is("the last moves up", Due.signs(x, 9), "bbbbbbbbbbbbcccccccccccc");
     }
 
     @Says("join: (as join): it can be UNDONE and tells CHANGED")

@@ -186,6 +186,18 @@ final class CellEdges {
         due.is("of the tail there is none", width("add 0 a|1.234;align 0 point;"), 2);
     }
 
+    @Says("by POINT: its first point (of each CELL its own, in each COLUMN)")
+    static void p12WidthByPointInOtherColumns(Due due) {
+        ElasticTabs x = Due.with("add 0 1.5|200|.|;add 1 7|1.25|a|;align 1 point;align 2 point;");
+        due.is("COLUMN 0 is LEFT", x.cell(0, 0, 1), 4);
+        due.is("COLUMN 1", x.cell(0, 1, 1), 7);
+        due.is("COLUMN 2", x.cell(0, 2, 1), 3);
+        due.is("WIDEST of COLUMN 1", x.cell(1, 1, 5), 0);
+        due.is("WIDEST of COLUMN 2", x.cell(0, 2, 5), 1);
+        due.is("SAVES of COLUMN 1", x.cell(1, 1, 6), 2);
+        due.is("SAVES of COLUMN 2", x.cell(0, 2, 6), 2);
+    }
+
     @Says("by POINT: together, LEAST at least, and PAD")
     static void p12WidthByPointWithLeast(Due due) {
         String lines = "add 0 1.25|;add 1 100|;align 0 point;pad 2;";
@@ -251,6 +263,14 @@ final class CellEdges {
             due.is("WIDEST, asked of LINE " + l, x.cell(l, 0, 5), 3);
         }
         due.is("WIDEST of the other BLOCK", x.cell(0, 0, 5), 0);
+    }
+
+    @Says("WIDEST of a BLOCK (of each COLUMN its own)")
+    static void p12WidestInOtherColumns(Due due) {
+        ElasticTabs x = Due.with("add 0 aaa|b|c|;add 1 a|bb|c|;add 2 a|b|ccc|;");
+        for (int k = 0; k < 3; k++) {
+            due.is("COLUMN " + k, x.cell(0, k, 5), k);
+        }
     }
 
     @Says("WIDEST (by POINT: the first with the most ahead of the point)")

@@ -1,6 +1,10 @@
 import java.util.Random;
 
-/** Many runs of calls, the same every time, on ElasticTabs and on the plain model of the document. */
+/**
+ * Many runs of calls, the same every time, on ElasticTabs and on the plain model of the document.
+ * It looks at all there is behind each call, so that an object gets more calls than the 512 that
+ * are promised: the class has no count of calls that could make that matter.
+ */
 public final class ModelTest {
     private static final String SIGNS = "abz019..--||||||";
     private static final String[] VERBS = {"add", "add", "add", "drop", "split", "join", "put", "cut", "align",

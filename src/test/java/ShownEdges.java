@@ -45,6 +45,11 @@ final class ShownEdges {
         due.is("PAD 0", shown(lines + "pad 0;"), "  1.25 t/100    t/   .5  t/ 10.   t/       t/  a.b.ct");
     }
 
+    @Says("POINT (the first point of a CELL is not the one of a CELL ahead of it)")
+    static void p13PointInOtherColumns(Due due) {
+        due.is("SHOWN", shown("add 0 1.5|200|t;add 1 7|1.25|t;align 1 point;"), "1.5 200    t/7     1.25 t");
+    }
+
     @Says("POINT (what LEAST adds is behind them)")
     static void p13PointWithLeast(Due due) {
         due.is("SHOWN", shown("add 0 1.5|t;add 1 22|t;align 0 point;least 6;"), " 1.5   t/22     t");
@@ -237,6 +242,20 @@ final class ShownEdges {
     static void p16Blanks(Due due) {
         due.is("a blank", Due.with("add 0 |;").digest(), (17 * 31 + 1) * 31 + 32);
         due.is("a SIGN", Due.with("add 0 a;").digest(), (17 * 31 + 1) * 31 + 97);
+    }
+
+    @Says("of each LINE how wide it is, then what is SHOWN at each place (as it is now, when CELLS or LINES went)")
+    static void p16BehindChanges(Due due) {
+        ElasticTabs x = Due.with("add 0 a|bb|c;add 1 d;");
+        x.cut(0, 4);
+        due.is("a CELL went", x.digest(), digestOf("a bbc", "d"));
+        x.cut(0, 1);
+        due.is("the last CELL went", x.digest(), digestOf("abbc", "d"));
+        x.join(0);
+        due.is("a LINE went", x.digest(), digestOf("abbcd"));
+        x.undo();
+        x.undo();
+        due.is("undone", x.digest(), digestOf("a bbc", "d"));
     }
 
     @Says("h = 31 h + v (a long wraps around)")

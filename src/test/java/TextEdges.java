@@ -272,6 +272,19 @@ final class TextEdges {
         due.is("digest()", x.digest(), 17);
     }
 
+    @Says("drop L (of twelve LINES)")
+    static void p04DropOfTwelve(Due due) {
+        ElasticTabs x = Due.withLines(11, "a|");
+        Due.run(x, "add 11 z;");
+        due.is("the first", Due.run(x, "drop 0;"), 1);
+        due.is("the last moves up", Due.signs(x, 10), "z");
+        due.is("no twelfth", x.line(11, 0), -1);
+        Due.run(x, "add 0 b;");
+        due.is("the last", Due.run(x, "drop 11;"), 1);
+        due.is("LINES", x.count(0), 11);
+        due.is("the last one then", Due.signs(x, 10), "a|");
+    }
+
     @Says("split L P (what is from place P on is a LINE of its own behind it)")
     static void p04Split(Due due) {
         ElasticTabs x = Due.with("add 0 a|b;add 1 z;");
