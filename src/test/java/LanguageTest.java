@@ -17,6 +17,9 @@ public final class LanguageTest {
     private static final Set<String> CONSTANTS = new TreeSet<>(Arrays.asList("BAD", "STATE", "FULL", "NONE"));
     private static final String[] FORBIDDEN = {"throw", "throws", "try", "catch", "synchronized", "assert", "import",
         "package", "Object", "equals", "hashCode", "toString", "float", "double", "Exact", "->", "::", "@"};
+    private static final Set<String> CALLED = new TreeSet<>(Arrays.asList("Math.max", "Math.min", "System.arraycopy",
+            "Script.isSign"));
+    private static final int MOST_ROWS_OF_A_METHOD = 60;
     private static final Due due = new Due();
 
     public static void main(String[] args) throws Exception {
@@ -84,5 +87,27 @@ public final class LanguageTest {
             due.holds("no " + word + " in the source", !found.find());
         }
         due.holds("signs 1 to 127 alone", text.chars().allMatch(c -> c > 0 && c < 128));
+        library(code);
+        methods(code);
+    }
+
+    /** Rule 4: what is called of a class by its name; what is called of objects is of the project's own or of String. */
+    private static void library(String code) {
+        Matcher called = Pattern.compile("\\b([A-Z]\\w*\\.\\w+)\\(").matcher(code);
+        while (called.find()) {
+            due.holds(called.group(1) + " may be called", CALLED.contains(called.group(1)));
+        }
+    }
+
+    /** Rule 11: a method opens and closes with the same indent, so that its rows can be counted. */
+    private static void methods(String code) {
+        Matcher method = Pattern.compile("(?m)^( {4}| {8})(?! )[^\n=;]*\\([^\n;]*\\) \\{$(?s:.*?)^\\1\\}$").matcher(code);
+        int found = 0;
+        while (method.find()) {
+            long rows = method.group().lines().count();
+            due.holds(method.group().lines().findFirst().orElse("") + " is short", rows <= MOST_ROWS_OF_A_METHOD);
+            found++;
+        }
+        due.holds("methods were found", found > 60);
     }
 }
